@@ -614,10 +614,6 @@ public final class PhraseSwaps {
             letters.takeFrom(other.letters);
             sources.takeFrom(other.sources);
         }
-
-        boolean isWordAt(int place) {
-            return isWordLetter(letters.get(place));
-        }
     }
 
     /** A phrase of a kind, and its gift. */
@@ -641,7 +637,7 @@ public final class PhraseSwaps {
          * MAYBE, if that hangs on letters that have not come yet, which there are in an open line alone.
          */
         int stands(Line line, int place, int asKind, int known, boolean open) {
-            if (asKind != PLAIN && line.isWordAt(place - 1)) {
+            if (asKind != PLAIN && isWordLetter(line.letters.get(place - 1))) {
                 return NO;
             }
             int end = place + phrase.size();
@@ -660,7 +656,7 @@ public final class PhraseSwaps {
             if (end == known) {
                 return open ? MAYBE : YES;
             }
-            return line.isWordAt(end) ? NO : YES;
+            return isWordLetter(line.letters.get(end)) ? NO : YES;
         }
 
         private static boolean wantsEnd(int kind) {
@@ -912,20 +908,17 @@ public final class PhraseSwaps {
 
         /** Finds once where rules stand, so that many sets of them can go through the line. */
         void prepare(Line line) {
-            prepareAs(line, NONE, NONE);
+            putInOrder();
+            takeKinds();
+            findStanding(line);
         }
 
         /** Likewise, as if one rule were of another kind. */
         void prepareAs(Line line, int changed, int kind) {
             putInOrder();
-            kinds.clear();
-            for (int k = 0; k < book.size(); k++) {
-                kinds.add(k == changed ? kind : book.get(k).kind);
-            }
-            standingAt.clear();
-            for (int place = 0; place < line.size(); place++) {
-                standingAt.add(rulesAt(line, place));
-            }
+            takeKinds();
+            kinds.set(changed, kind);
+            findStanding(line);
         }
 
         private void putInOrder() {
@@ -939,14 +932,24 @@ public final class PhraseSwaps {
             }
         }
 
-        private int rulesAt(Line line, int place) {
-            int set = 0;
+        private void takeKinds() {
+            kinds.clear();
             for (int k = 0; k < book.size(); k++) {
-                if (book.get(k).stands(line, place, kinds.get(k), line.size(), false) == YES) {
-                    set |= 1 << k;
-                }
+                kinds.add(book.get(k).kind);
             }
-            return set;
+        }
+
+        private void findStanding(Line line) {
+            standingAt.clear();
+            for (int place = 0; place < line.size(); place++) {
+                int set = 0;
+                for (int k = 0; k < book.size(); k++) {
+                    if (book.get(k).stands(line, place, kinds.get(k), line.size(), false) == YES) {
+                        set |= 1 << k;
+                    }
+                }
+                standingAt.add(set);
+            }
         }
 
         /** The rules that stand anywhere; the others change nothing, on or off. */

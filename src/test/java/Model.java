@@ -576,7 +576,7 @@ final class Model {
         }
     }
 
-    /** Every text whose answers a run may be asked for. */
+    /** THE LINE, so that a test can name it. */
     String line() {
         return line;
     }
