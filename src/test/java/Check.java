@@ -56,6 +56,15 @@ final class Check {
         return text.toString();
     }
 
+    /** The PHRASE of a RULE (what 0), or what it GIVES (1), as a text. */
+    static String spelt(PhraseSwaps x, int rule, int what) {
+        StringBuilder text = new StringBuilder();
+        for (int k = 0; k < x.of(rule, what + 1); k++) {
+            text.append((char) x.spelt(rule, what, k));
+        }
+        return text.toString();
+    }
+
     /** What COMES as a text. */
     static String made(PhraseSwaps x) {
         StringBuilder text = new StringBuilder();
