@@ -11,6 +11,10 @@ final class Check {
         }
     }
 
+    int held() {
+        return held;
+    }
+
     void finish(String name) {
         System.out.println(name + ": " + held + " answers, " + wrong + " wrong");
         System.exit(wrong == 0 ? 0 : 1);
@@ -41,7 +45,8 @@ final class Check {
     /** THE LINE as a text. */
     static String line(PhraseSwaps x) {
         StringBuilder text = new StringBuilder();
-        for (int k = 0; k < x.count(0); k++) {
+        int size = x.count(0);
+        for (int k = 0; k < size; k++) {
             text.append((char) x.at(k, 0));
         }
         return text.toString();
@@ -50,7 +55,8 @@ final class Check {
     /** The SOURCES of THE LINE, with a blank behind each. */
     static String sources(PhraseSwaps x) {
         StringBuilder text = new StringBuilder();
-        for (int k = 0; k < x.count(0); k++) {
+        int size = x.count(0);
+        for (int k = 0; k < size; k++) {
             text.append(x.at(k, 1)).append(' ');
         }
         return text.toString();
@@ -59,7 +65,8 @@ final class Check {
     /** The PHRASE of a RULE (what 0), or what it GIVES (1), as a text. */
     static String spelt(PhraseSwaps x, int rule, int what) {
         StringBuilder text = new StringBuilder();
-        for (int k = 0; k < x.of(rule, what + 1); k++) {
+        int size = x.of(rule, what + 1);
+        for (int k = 0; k < size; k++) {
             text.append((char) x.spelt(rule, what, k));
         }
         return text.toString();

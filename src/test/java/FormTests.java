@@ -77,10 +77,16 @@ public final class FormTests {
                     check.due("name of its own: " + method, taken ? 1 : 0, 0);
                 }
             }
+            for (Method method : one.getDeclaredMethods()) {
+                check.due("seven parameters at most: " + method, method.getParameterCount() <= 7 ? 1 : 0, 1);
+            }
+            int fields = 0;
             for (Field field : one.getDeclaredFields()) {
                 int modifiers = field.getModifiers();
+                fields += Modifier.isStatic(modifiers) ? 0 : 1;
                 check.due("no static state: " + field, Modifier.isStatic(modifiers) && !Modifier.isFinal(modifiers) ? 1 : 0, 0);
             }
+            check.due("twenty fields at most: " + one, fields <= 20 ? 1 : 0, 1);
         }
     }
 

@@ -31,6 +31,7 @@ public final class LineBoundTests {
         ruleFull();
         newRuleIsOn();
         newRuleKeepsTheRest();
+        newRulesAreOfTheNextPass();
         ofBounds();
         speltBounds();
         atBounds();
@@ -157,10 +158,12 @@ public final class LineBoundTests {
         check.due("job of 61", Check.job(x, Check.many("a", 61)), -80);
         check.due("job of 61 and a rule", Check.job(x, Check.many("a", 61) + ";p:a="), -80);
         check.due("job of 150", Check.job(x, Check.many("a", 150)), -80);
-        check.due("a 61st behind blanks", Check.job(x, Check.many("a ", 60) + " _"), -141);
         check.due("line stays", x.count(0), 1);
-        check.due("60 with blanks", Check.job(x, Check.many(" a", 60) + "  "), 0);
-        check.due("60 with blanks", x.count(0), 60);
+        PhraseSwaps y = Check.of("b");
+        check.due("a 61st behind blanks", Check.job(y, Check.many("a ", 60) + " _"), -141);
+        check.due("line stays", y.count(0), 1);
+        check.due("60 with blanks", Check.job(y, Check.many(" a", 60) + "  "), 0);
+        check.due("60 with blanks", y.count(0), 60);
     }
 
     // "SOURCE of each its place", 0 .. 59.
@@ -238,8 +241,8 @@ public final class LineBoundTests {
 
     /** Every sign that can be typed, between two texts: letters, blanks, one sign, and all others answer so. */
     private static void dueOfSigns(String ahead, String behind, int letters, int blank, String one, int ofOne, int others) {
-        PhraseSwaps x = new PhraseSwaps();
         for (char sign = 32; sign <= 126; sign++) {
+            PhraseSwaps x = new PhraseSwaps();
             int due = isLetter(sign) ? letters : sign == ' ' ? blank : one.indexOf(sign) >= 0 ? ofOne : others;
             check.due("job " + ahead + sign + behind, Check.job(x, ahead + sign + behind), due);
         }
@@ -255,8 +258,8 @@ public final class LineBoundTests {
 
     // "p w f t o (PLAIN, WHOLE, FRONT, TURNED, ONCE)".
     private static void signsOfAKind() {
-        PhraseSwaps x = new PhraseSwaps();
         for (char sign = 33; sign <= 126; sign++) {
+            PhraseSwaps x = new PhraseSwaps();
             int kind = "pwfto".indexOf(sign);
             check.due("job of kind " + sign, Check.job(x, "a;" + sign + ":b=c"), kind < 0 ? -22 : 1);
             if (kind >= 0) {
@@ -269,8 +272,9 @@ public final class LineBoundTests {
             check.due("rule of kind " + sign, Check.rule(y, sign + ":b=c"), kind < 0 ? -20 : 0);
             check.due("its kind", y.of(0, 0), kind < 0 ? -1 : kind);
         }
-        check.due("no kind", Check.job(x, "a; :b=c"), -23);
-        check.due("two kinds", Check.job(x, "a;pw:b=c"), -23);
+        PhraseSwaps z = new PhraseSwaps();
+        check.due("no kind", Check.job(z, "a; :b=c"), -23);
+        check.due("two kinds", Check.job(z, "a;pw:b=c"), -23);
     }
 
     private static void signsOfAPhrase() {
@@ -452,6 +456,23 @@ public final class LineBoundTests {
         check.dueText("other phrases stay", Check.spelt(x, 0, 0), "ab");
         check.due("the image stays", x.restore(), 1);
         check.due("rules of the image", x.count(1), 3);
+    }
+
+    // RULES "as they come": what was looked for ahead of a new one, or of a JOB, is asked anew behind it.
+    private static void newRulesAreOfTheNextPass() {
+        PhraseSwaps x = Check.of("abc;p:a=x");
+        check.due("used", x.used(0), 0);
+        check.due("a longer one", Check.rule(x, "p:ab=y"), 1);
+        check.due("is used", x.used(0), 1);
+        check.due("a shorter one", Check.rule(x, "p:a=z"), 2);
+        check.due("is not", x.used(0), 1);
+        check.due("a whole one", Check.rule(x, "w:abc="), 3);
+        check.due("is used", x.used(0), 3);
+        check.due("a job with rules in another order", Check.job(x, "abc;w:abc=;p:ab=y"), 2);
+        check.due("the longest", x.used(0), 0);
+        check.due("a job with fewer rules", Check.job(x, "abc;p:b=y"), 1);
+        check.due("none", x.used(0), -4);
+        check.due("the one there is", x.used(1), 0);
     }
 
     // Promise 5: "0 KIND, .. 4 USES. BAD."

@@ -30,6 +30,7 @@ public final class LookedForBoundTests {
         leanNone();
         leanOfLikeOnes();
         leanOfManyLetters();
+        leanAndOddsOfOnce();
         oddsBad();
         oddsOfM();
         oddsOfC();
@@ -40,6 +41,7 @@ public final class LookedForBoundTests {
         restoreNone();
         imageKeepsAllBut();
         imageOfWhatMayBeUndone();
+        imageOutlivesManyDeeds();
         imageOfTheLatest();
         imageOfNothing();
         check.finish("LookedForBoundTests");
@@ -338,6 +340,21 @@ public final class LookedForBoundTests {
         dueLean(Check.of(Check.many("a", 60) + ";p:a=cccccc;p:a=cccccc"), "360 both", 0, 360);
     }
 
+    // "only if it was not yet used in this PASS": without the ONCE one two are left to the other, with it but one.
+    private static void leanAndOddsOfOnce() {
+        PhraseSwaps x = Check.of("a_a;o:a=;p:a=bb;p:c=");
+        dueLean(x, "once", 1, 2);
+        dueOdds(x, 1, 5, 0, 1);
+        dueOdds(x, 2, 5, 1, 4);
+        dueOdds(x, 3, 5, 3, 4);
+        dueOdds(x, 4, 5, 3, 4);
+        dueOdds(x, 5, 5, 1, 1);
+        PhraseSwaps y = Check.of(Check.many("_a", 30) + ";o:a=bbbbbb;p:q=");
+        dueLean(y, "once of thirty", 0, 60);
+        dueOdds(y, 64, 4, 2, 5);
+        dueOdds(y, 65, 4, 1, 1);
+    }
+
     // Promise 22: "by c of 10 (0 .. 10)", "m (0 .. 360)", what 0, 1.
     private static void oddsBad() {
         for (int m : new int[] {LEAST, -1, 361, MOST}) {
@@ -533,6 +550,33 @@ public final class LookedForBoundTests {
         x.undo();
         x.restore();
         check.due("seven then", x.count(6), 7);
+    }
+
+    // Whatever was done since, all 8 that were known then are known again.
+    private static void imageOutlivesManyDeeds() {
+        for (int known = 0; known <= 9; known++) {
+            for (int since = 0; since <= 9; since++) {
+                PhraseSwaps x = Check.of("a");
+                for (int k = 1; k <= known; k++) {
+                    x.change(0, 'a' + k);
+                }
+                x.image();
+                for (int k = 0; k < since / 2; k++) {
+                    x.undo();
+                }
+                for (int k = 0; k < since; k++) {
+                    x.change(0, 'z' - k);
+                }
+                check.due("restore", x.restore(), 1);
+                int left = Math.min(known, 8);
+                check.due("known then", x.count(6), left);
+                for (int k = 1; k <= left; k++) {
+                    check.due("undo " + k, x.undo(), left - k);
+                    check.due("letter " + k + " of " + known + " behind " + since, x.at(0, 0), 'a' + known - k);
+                }
+                check.due("no more", x.undo(), -4);
+            }
+        }
     }
 
     private static void imageOfTheLatest() {

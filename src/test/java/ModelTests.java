@@ -3,8 +3,9 @@ import java.util.Random;
 /** All promises: runs of calls by chance, each answer held against that of the model. */
 public final class ModelTests {
     private static final Check check = new Check();
-    private static final int RUNS = 1500;
-    private static final int CALLS = 300;
+    private static final int RUNS = 3000;
+    /** An object is asked 512 times at most, and a text may take 220 calls. */
+    private static final int CALLS = 512 - 220;
 
     public static void main(String[] args) {
         for (int run = 0; run < RUNS; run++) {
@@ -18,9 +19,10 @@ public final class ModelTests {
         PhraseSwaps x = new PhraseSwaps();
         Model y = new Model();
         String letters = new String[] {"a_", "ab", "ab_", "abc_", "aaab_"}[chance.nextInt(5)];
+        int first = check.held();
         tellBoth(x, y, jobText(chance, letters));
         check.due("run " + seed + " job", x.job(), y.job());
-        for (int call = 0; call < CALLS; call++) {
+        for (int call = 0; check.held() - first < CALLS && call < CALLS; call++) {
             oneCall("run " + seed + " call " + call, x, y, chance, letters);
         }
     }
