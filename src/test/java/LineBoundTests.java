@@ -105,6 +105,13 @@ public final class LineBoundTests {
         check.due("the 150th is read", y.job(), -169);
         Check.tell(y, Check.many(" ", 150));
         check.due("150 blanks", y.rule(), -170);
+        twins.refuses("type FULL", LineBoundTests::fullTape, z -> z.type('z'), -3);
+        twins.refuses("type BAD ahead of FULL", LineBoundTests::fullTape, z -> z.type(31), -1);
+    }
+
+    private static void fullTape(PhraseSwaps x) {
+        Twins.story(x);
+        Check.tell(x, "z_" + Check.many(" ", 148));
     }
 
     // Promises 3 and 4: "THE TAPE, which is empty then", by a FAULT and by FULL too.
