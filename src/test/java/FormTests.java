@@ -27,6 +27,7 @@ public final class FormTests {
         face();
         constants();
         members();
+        lengths();
         words();
         check.finish("FormTests");
     }
@@ -69,15 +70,11 @@ public final class FormTests {
         for (Class<?> one : classes) {
             if (one != PhraseSwaps.class) {
                 check.due("static " + one, Modifier.isStatic(one.getModifiers()) ? 1 : 0, 1);
-                for (Method method : one.getDeclaredMethods()) {
-                    boolean taken = false;
-                    for (String told : FACE) {
-                        taken |= told.contains(" " + method.getName() + "(");
-                    }
-                    check.due("name of its own: " + method, taken ? 1 : 0, 0);
-                }
             }
             for (Method method : one.getDeclaredMethods()) {
+                if (!Modifier.isPublic(method.getModifiers())) {
+                    check.due("name of its own: " + method, isOfFace(method.getName()) ? 1 : 0, 0);
+                }
                 check.due("seven parameters at most: " + method, method.getParameterCount() <= 7 ? 1 : 0, 1);
             }
             int fields = 0;
@@ -88,6 +85,33 @@ public final class FormTests {
             }
             check.due("twenty fields at most: " + one, fields <= 20 ? 1 : 0, 1);
         }
+    }
+
+    private static boolean isOfFace(String name) {
+        boolean taken = false;
+        for (String told : FACE) {
+            taken |= told.contains(" " + name + "(");
+        }
+        return taken;
+    }
+
+    /** A method begins with its head and ends with a brace as far in as that. */
+    private static void lengths() throws IOException {
+        Pattern head = Pattern.compile("( ++)(?!(?:if|for|while|switch|else)\\b)[\\w\\[\\] ]+\\(.*\\) \\{");
+        List<String> lines = Files.readAllLines(Path.of("src/main/java/PhraseSwaps.java"));
+        int methods = 0;
+        for (int k = 0; k < lines.size(); k++) {
+            Matcher matcher = head.matcher(lines.get(k));
+            if (matcher.matches()) {
+                int end = k;
+                while (end < lines.size() && !lines.get(end).equals(matcher.group(1) + "}")) {
+                    end++;
+                }
+                methods++;
+                check.due("sixty lines at most: " + lines.get(k).trim(), end - k + 1 <= 60 ? 1 : 0, 1);
+            }
+        }
+        check.due("methods are found", methods >= FACE.length ? 1 : 0, 1);
     }
 
     private static void words() throws IOException {
